@@ -279,9 +279,8 @@ public final class CycleRows {
             return false;
         }
 
-        boolean samePart(int rank, int other) {
-            return rank == other
-                    || contains(reached[rank], other) && contains(reached[other], rank);
+        boolean reachEachOther(int rank, int other) {
+            return contains(reached[rank], other) && contains(reached[other], rank);
         }
 
         /** Splits the keys that reach a key in fewer than so many steps by how many they need. */
@@ -346,7 +345,7 @@ public final class CycleRows {
 
     /**
      * What the latest run told. Parts share no key, so the rings' keys all stand in one row, ring
-     * after ring, and need no more room than there are keys.
+     * after ring from place 0, and need no more room than there are keys.
      */
     private static final class Told {
         int configuration = NONE;
@@ -426,7 +425,6 @@ public final class CycleRows {
 
         private void tellRings(Keys keys, Reaches reaches) {
             ringCount = 0;
-            starts[0] = 0;
             for (int rank = 0; rank < keyCount; rank++) {
                 if (reaches.shortestRing(rank) > 0 && firstOfPart(rank, reaches) == rank) {
                     tellRing(leastRinged(rank, reaches), keys, reaches);
@@ -436,7 +434,7 @@ public final class CycleRows {
 
         private int firstOfPart(int rank, Reaches reaches) {
             for (int first = 0; first < rank; first++) {
-                if (reaches.samePart(first, rank)) {
+                if (reaches.reachEachOther(first, rank)) {
                     return first;
                 }
             }
@@ -447,7 +445,7 @@ public final class CycleRows {
         private int leastRinged(int first, Reaches reaches) {
             int best = first;
             for (int rank = first + 1; rank < keyCount; rank++) {
-                if (reaches.samePart(first, rank)
+                if (reaches.reachEachOther(first, rank)
                         && reaches.shortestRing(rank) < reaches.shortestRing(best)) {
                     best = rank;
                 }
