@@ -283,17 +283,15 @@ public final class CycleRows {
             return contains(reached[rank], other) && contains(reached[other], rank);
         }
 
-        /** Splits the keys that reach a key in fewer than so many steps by how many they need. */
+        /** Finds the keys that come to a key in one step, in two, and on to below so many. */
         void layTowards(int rank, int steps) {
-            long seen = 1L << rank;
-            layers[0] = seen;
+            layers[0] = 1L << rank;
             for (int step = 1; step < steps && step < MOST_KEYS; step++) {
-                layers[step] = askersOf(layers[step - 1]) & ~seen;
-                seen |= layers[step];
+                layers[step] = askersOf(layers[step - 1]);
             }
         }
 
-        /** The first key that a key asks and that needs so many steps; NONE if there is none. */
+        /** The first key that a key asks and that comes in so many steps; NONE if none does. */
         int firstAsked(int rank, int steps) {
             long choice = asked[rank] & layers[steps];
             return choice == 0L ? NONE : lowest(choice);
@@ -455,7 +453,8 @@ public final class CycleRows {
 
         /**
          * From the ring's first key always on to the first key that still comes back in time. No
-         * key before the first one can come up: it would be in a ring as short, and begin it.
+         * key before the first one can come up: it would be in a ring as short, and begin it. None
+         * can come up twice: without the steps between, the first one's ring would be shorter.
          */
         private void tellRing(int first, Keys keys, Reaches reaches) {
             int length = reaches.shortestRing(first);

@@ -43,37 +43,6 @@ public final class PromisesTest {
         DUE.is(call, got, want);
     }
 
-    /** An object with the keys 0 .. count - 1, whose names are in the same order. */
-    private static CycleRows keys(int count) {
-        CycleRows x = new CycleRows();
-        for (int key = 0; key < count; key++) {
-            x.key(key * 10);
-        }
-        return x;
-    }
-
-    /** An edge for each next two numbers, at place 0 in all configurations. */
-    private static void edges(CycleRows x, int... pairs) {
-        for (int at = 0; at + 1 < pairs.length; at += 2) {
-            x.edge(pairs[at], pairs[at + 1], 0, ALL);
-        }
-    }
-
-    private static void ringIs(String what, CycleRows x, int i, int... keys) {
-        is(what + ": size(" + i + ")", x.size(i), keys.length);
-        for (int k = 0; k < keys.length; k++) {
-            is(what + ": ring(" + i + ", " + k + ", 0)", x.ring(i, k, 0), keys[k]);
-        }
-        is(what + ": ring behind its end", x.ring(i, keys.length, 0), NONE);
-    }
-
-    private static void metIs(String what, CycleRows x, int... keys) {
-        for (int k = 0; k < keys.length; k++) {
-            is(what + ": met(" + k + ")", x.met(k), keys[k]);
-        }
-        is(what + ": met behind its end", x.met(keys.length), NONE);
-    }
-
     /** Promise 1. */
     private static void newObject() {
         CycleRows x = new CycleRows();
@@ -117,7 +86,7 @@ public final class PromisesTest {
 
     /** Promise 3. */
     private static void edge() {
-        CycleRows x = keys(2);
+        CycleRows x = Given.keys(2);
         is("edge(0, 1)", x.edge(0, 1, 5, 1), 0);
         is("edge(0, 1) again", x.edge(0, 1, 5, 1), 1);
         is("edge to itself", x.edge(1, 1, MIN, 0), 2);
@@ -140,7 +109,7 @@ public final class PromisesTest {
     }
 
     private static void bits() {
-        CycleRows x = keys(1);
+        CycleRows x = Given.keys(1);
         x.edge(0, 0, 0, ~ALL);
         for (int c = 0; c < 8; c++) {
             is("bits above 7 mean nothing", x.run(c), 0);
@@ -153,8 +122,8 @@ public final class PromisesTest {
 
     /** Promise 4. */
     private static void remove() {
-        CycleRows x = keys(3);
-        edges(x, 0, 1, 1, 0, 0, 1, 0, 2, 0, 1, 1, 1);
+        CycleRows x = Given.keys(3);
+        Given.edges(x, 0, 1, 1, 0, 0, 1, 0, 2, 0, 1, 1, 1);
         x.edge(0, 1, 0, 0);
         x.cut(2);
         is("remove(0, 1) with one gone", x.remove(0, 1), 3);
@@ -176,8 +145,8 @@ public final class PromisesTest {
 
     /** Promise 5. */
     private static void cut() {
-        CycleRows x = keys(2);
-        edges(x, 0, 1, 1, 0);
+        CycleRows x = Given.keys(2);
+        Given.edges(x, 0, 1, 1, 0);
         x.edge(0, 0, 0, 0);
         is("run before cut", x.run(0), 1);
         is("cut(2), without configurations", x.cut(2), true);
@@ -196,16 +165,16 @@ public final class PromisesTest {
 
     /** Promise 6: how many, in which configurations. */
     private static void run() {
-        CycleRows x = keys(5);
+        CycleRows x = Given.keys(5);
         is("run without edges", x.run(0), 0);
         x.edge(0, 1, 0, 1);
         x.edge(1, 0, 0, 3);
         x.edge(2, 2, 0, 2);
         x.edge(3, 4, 0, ALL);
         is("run(0)", x.run(0), 1);
-        ringIs("run(0)", x, 0, 0, 1);
+        DUE.ringIs("run(0)", x, 0, 0, 1);
         is("run(1)", x.run(1), 1);
-        ringIs("run(1)", x, 0, 2);
+        DUE.ringIs("run(1)", x, 0, 2);
         is("run(2)", x.run(2), 0);
         is("run(7)", x.run(7), 0);
         is("run(8)", x.run(8), NONE);
@@ -216,28 +185,28 @@ public final class PromisesTest {
 
     /** Promise 6: the fewest keys; then, key by key, those that come first. */
     private static void runLeastRing() {
-        CycleRows x = keys(6);
-        edges(x, 0, 1, 1, 2, 2, 0, 2, 3, 3, 2);
+        CycleRows x = Given.keys(6);
+        Given.edges(x, 0, 1, 1, 2, 2, 0, 2, 3, 3, 2);
         is("fewest keys", x.run(0), 1);
-        ringIs("fewest keys", x, 0, 2, 3);
+        DUE.ringIs("fewest keys", x, 0, 2, 3);
         x.edge(3, 3, 0, ALL);
         x.run(0);
-        ringIs("itself is fewer", x, 0, 3);
+        DUE.ringIs("itself is fewer", x, 0, 3);
 
-        x = keys(6);
-        edges(x, 0, 5, 5, 1, 1, 0, 0, 2, 2, 4, 4, 0, 2, 3, 3, 0);
+        x = Given.keys(6);
+        Given.edges(x, 0, 5, 5, 1, 1, 0, 0, 2, 2, 4, 4, 0, 2, 3, 3, 0);
         is("second and third key decide", x.run(0), 1);
-        ringIs("second and third key decide", x, 0, 0, 2, 3);
+        DUE.ringIs("second and third key decide", x, 0, 0, 2, 3);
 
-        x = keys(5);
-        edges(x, 0, 1, 1, 2, 2, 3, 3, 0, 3, 4, 4, 0, 2, 1);
+        x = Given.keys(5);
+        Given.edges(x, 0, 1, 1, 2, 2, 3, 3, 0, 3, 4, 4, 0, 2, 1);
         x.run(0);
-        ringIs("not through the first key of the part", x, 0, 1, 2);
+        DUE.ringIs("not through the first key of the part", x, 0, 1, 2);
 
-        x = keys(6);
-        edges(x, 0, 1, 1, 2, 2, 5, 0, 3, 3, 4, 4, 0, 5, 0);
+        x = Given.keys(6);
+        Given.edges(x, 0, 1, 1, 2, 2, 5, 0, 3, 3, 4, 4, 0, 5, 0);
         x.run(0);
-        ringIs("a lesser next key that comes back too late", x, 0, 0, 3, 4);
+        DUE.ringIs("a lesser next key that comes back too late", x, 0, 0, 3, 4);
     }
 
     private static void runOrderOfNames() {
@@ -246,12 +215,12 @@ public final class PromisesTest {
         for (int name : names) {
             x.key(name);
         }
-        edges(x, 0, 1, 1, 2, 2, 3, 3, 4, 4, 0);
+        Given.edges(x, 0, 1, 1, 2, 2, 3, 3, 4, 4, 0);
         is("all five", x.run(0), 1);
-        ringIs("all five from the least name", x, 0, 2, 3, 4, 0, 1);
-        edges(x, 4, 3, 1, 4, 4, 1);
+        DUE.ringIs("all five from the least name", x, 0, 2, 3, 4, 0, 1);
+        Given.edges(x, 4, 3, 1, 4, 4, 1);
         x.run(0);
-        ringIs("-1 before 0", x, 0, 3, 4);
+        DUE.ringIs("-1 before 0", x, 0, 3, 4);
         for (int key = 0; key < 5; key++) {
             is("one part", x.strong(key), 0);
         }
@@ -263,22 +232,22 @@ public final class PromisesTest {
         for (int name : names) {
             x.key(name);
         }
-        edges(x, 0, 5, 5, 0, 1, 2, 2, 1, 4, 4);
+        Given.edges(x, 0, 5, 5, 0, 1, 2, 2, 1, 4, 4);
         is("three rings", x.run(3), 3);
-        ringIs("first part", x, 0, 5, 0);
-        ringIs("second part", x, 1, 4);
-        ringIs("third part", x, 2, 2, 1);
+        DUE.ringIs("first part", x, 0, 5, 0);
+        DUE.ringIs("second part", x, 1, 4);
+        DUE.ringIs("third part", x, 2, 2, 1);
         is("a fourth", x.size(3), 0);
         int[] parts = {0, 3, 3, 2, 1, 0};
         for (int key = 0; key < 6; key++) {
             is("strong(" + key + ")", x.strong(key), parts[key]);
         }
-        x = keys(4);
-        edges(x, 1, 2, 2, 1, 1, 0, 0, 0, 2, 3, 3, 3);
+        x = Given.keys(4);
+        Given.edges(x, 1, 2, 2, 1, 1, 0, 0, 0, 2, 3, 3, 3);
         is("a part that reaches others", x.run(0), 3);
-        ringIs("reached, before", x, 0, 0);
-        ringIs("reaching", x, 1, 1, 2);
-        ringIs("reached, behind", x, 2, 3);
+        DUE.ringIs("reached, before", x, 0, 0);
+        DUE.ringIs("reaching", x, 1, 1, 2);
+        DUE.ringIs("reached, behind", x, 2, 3);
     }
 
     /** Promises 7 to 13 answer by the latest run that wasn't NONE, whatever came after it. */
@@ -296,7 +265,7 @@ public final class PromisesTest {
         x.remove(1, 0);
         is("run(-1)", x.run(-1), NONE);
         is("run(8)", x.run(8), NONE);
-        ringIs("as it was", x, 0, 0, 1);
+        DUE.ringIs("as it was", x, 0, 0, 1);
         is("place as it was", x.ring(0, 0, 1), 3);
         is("edge as it was", x.ring(0, 1, 2), 1);
         is("place of an edge that has gone", x.ring(0, 1, 1), 4);
@@ -319,8 +288,8 @@ public final class PromisesTest {
 
     /** Promise 7. */
     private static void size() {
-        CycleRows x = keys(6);
-        edges(x, 0, 0, 1, 2, 2, 3, 3, 1, 4, 5, 5, 4);
+        CycleRows x = Given.keys(6);
+        Given.edges(x, 0, 0, 1, 2, 2, 3, 3, 1, 4, 5, 5, 4);
         is("size before a run", x.size(0), 0);
         x.run(1);
         is("size(0)", x.size(0), 1);
@@ -334,7 +303,7 @@ public final class PromisesTest {
 
     /** Promise 8. */
     private static void ring() {
-        CycleRows x = keys(4);
+        CycleRows x = Given.keys(4);
         x.edge(3, 1, MIN, ALL);
         x.edge(1, 3, MAX, ALL);
         x.edge(0, 0, 77, ALL);
@@ -361,7 +330,7 @@ public final class PromisesTest {
     }
 
     private static void ringLeastPlace() {
-        CycleRows x = keys(2);
+        CycleRows x = Given.keys(2);
         x.edge(0, 0, MIN, 1);
         x.edge(0, 1, 7, ALL);
         x.edge(0, 1, -7, 2);
@@ -385,7 +354,7 @@ public final class PromisesTest {
 
     /** Promise 9. */
     private static void only() {
-        CycleRows x = keys(3);
+        CycleRows x = Given.keys(3);
         x.edge(0, 1, 0, 1);
         x.edge(1, 0, 0, ALL);
         x.edge(2, 2, 0, 1 << 7 | 1 << 8);
@@ -407,7 +376,7 @@ public final class PromisesTest {
         for (int wrong : WRONG) {
             is("only(" + wrong + ")", x.only(wrong), NONE);
         }
-        x = keys(2);
+        x = Given.keys(2);
         x.edge(0, 1, 0, 3);
         x.edge(1, 0, 0, 5);
         x.run(0);
@@ -420,8 +389,8 @@ public final class PromisesTest {
 
     /** Promise 10. */
     private static void newest() {
-        CycleRows x = keys(4);
-        edges(x, 1, 2, 2, 3, 3, 1, 0, 0);
+        CycleRows x = Given.keys(4);
+        Given.edges(x, 1, 2, 2, 3, 3, 1, 0, 0);
         x.edge(2, 3, 5, ALL);
         is("newest before a run", x.newest(0), NONE);
         x.run(0);
@@ -439,8 +408,8 @@ public final class PromisesTest {
 
     /** Promise 11. */
     private static void strong() {
-        CycleRows x = keys(6);
-        edges(x, 4, 1, 1, 4, 4, 2, 3, 2, 5, 5);
+        CycleRows x = Given.keys(6);
+        Given.edges(x, 4, 1, 1, 4, 4, 2, 3, 2, 5, 5);
         is("strong before a run", x.strong(0), NONE);
         x.run(9);
         is("strong after a run that was NONE", x.strong(0), NONE);
@@ -457,8 +426,8 @@ public final class PromisesTest {
 
     /** Promise 12. */
     private static void state() {
-        CycleRows x = keys(7);
-        edges(x, 0, 1, 1, 2, 2, 3, 3, 2, 3, 4, 6, 6);
+        CycleRows x = Given.keys(7);
+        Given.edges(x, 0, 1, 1, 2, 2, 3, 3, 2, 3, 4, 6, 6);
         x.edge(4, 6, 0, 2);
         is("state before a run", x.state(0), NONE);
         x.run(0);
@@ -476,8 +445,8 @@ public final class PromisesTest {
 
     /** Promise 13. */
     private static void least() {
-        CycleRows x = keys(7);
-        edges(x, 0, 1, 1, 2, 2, 3, 3, 0, 1, 0, 3, 4, 5, 5, 5, 0, 2, 6, 6, 3);
+        CycleRows x = Given.keys(7);
+        Given.edges(x, 0, 1, 1, 2, 2, 3, 3, 0, 1, 0, 3, 4, 5, 5, 5, 0, 2, 6, 6, 3);
         is("least before a run", x.least(0), NONE);
         x.run(0);
         int[] leasts = {2, 2, 4, 4, 0, 1, 5};
@@ -492,53 +461,53 @@ public final class PromisesTest {
 
     /** Promise 14. */
     private static void ask() {
-        CycleRows x = keys(5);
-        edges(x, 0, 1, 1, 2, 2, 3, 3, 1, 4, 4);
+        CycleRows x = Given.keys(5);
+        Given.edges(x, 0, 1, 1, 2, 2, 3, 3, 1, 4, 4);
         is("ask before a run", x.ask(0), NONE);
         x.run(-1);
         is("ask after a run that was NONE", x.ask(0), NONE);
         x.run(0);
         is("ask(0)", x.ask(0), 3);
-        metIs("ask(0)", x, 1, 2, 3);
+        DUE.metIs("ask(0)", x, 1, 2, 3);
         is("ask(2)", x.ask(2), 3);
-        metIs("ask(2)", x, 2, 3, 1);
+        DUE.metIs("ask(2)", x, 2, 3, 1);
         is("ask(4)", x.ask(4), 1);
-        metIs("ask(4)", x, 4);
+        DUE.metIs("ask(4)", x, 4);
         is("ask(5)", x.ask(5), NONE);
         for (int wrong : WRONG) {
             is("ask(" + wrong + ")", x.ask(wrong), NONE);
         }
         x.cut(3);
         is("ask without a ring", x.ask(0), 0);
-        metIs("ask without a ring", x);
+        DUE.metIs("ask without a ring", x);
     }
 
     private static void askOrder() {
-        CycleRows x = keys(6);
-        edges(x, 0, 3, 3, 4, 0, 4, 0, 1, 1, 2, 2, 1, 2, 0);
+        CycleRows x = Given.keys(6);
+        Given.edges(x, 0, 3, 3, 4, 0, 4, 0, 1, 1, 2, 2, 1, 2, 0);
         x.run(0);
         is("a key at its end is no ring; edges in their order", x.ask(0), 2);
-        metIs("edges in their order", x, 1, 2);
-        x = keys(6);
-        edges(x, 0, 5, 0, 0, 5, 4, 4, 5);
+        DUE.metIs("edges in their order", x, 1, 2);
+        x = Given.keys(6);
+        Given.edges(x, 0, 5, 0, 0, 5, 4, 4, 5);
         x.run(0);
         is("deeper before the next edge", x.ask(0), 2);
-        metIs("deeper before the next edge", x, 5, 4);
-        x = keys(4);
-        edges(x, 0, 1, 0, 2, 1, 3, 2, 3, 3, 0);
+        DUE.metIs("deeper before the next edge", x, 5, 4);
+        x = Given.keys(4);
+        Given.edges(x, 0, 1, 0, 2, 1, 3, 2, 3, 3, 0);
         x.edge(0, 0, MIN, ALL);
         x.run(0);
         is("by coming, not by place", x.ask(0), 3);
-        metIs("by coming, not by place", x, 0, 1, 3);
-        x = keys(4);
-        edges(x, 0, 1, 0, 2, 2, 1, 2, 3, 1, 3);
+        DUE.metIs("by coming, not by place", x, 0, 1, 3);
+        x = Given.keys(4);
+        Given.edges(x, 0, 1, 0, 2, 2, 1, 2, 3, 1, 3);
         x.run(0);
         is("many ways, no ring", x.ask(0), 0);
     }
 
     /** The configuration of the latest run that wasn't NONE, the keys and edges of now. */
     private static void askNow() {
-        CycleRows x = keys(2);
+        CycleRows x = Given.keys(2);
         x.edge(0, 1, 0, 1);
         x.edge(1, 0, 0, 1);
         x.edge(0, 0, 0, 2);
@@ -554,17 +523,17 @@ public final class PromisesTest {
         x.edge(1, 2, 0, 1);
         x.edge(2, 1, 0, 1);
         is("ask by later edges", x.ask(0), 2);
-        metIs("ask by later edges", x, 1, 2);
+        DUE.metIs("ask by later edges", x, 1, 2);
         is("ask a later key", x.ask(2), 2);
-        metIs("ask a later key", x, 2, 1);
+        DUE.metIs("ask a later key", x, 2, 1);
         is("the run stays", x.size(0), 2);
         is("the run stays: strong", x.strong(2), NONE);
     }
 
     /** Promise 15. */
     private static void met() {
-        CycleRows x = keys(3);
-        edges(x, 0, 1, 1, 0);
+        CycleRows x = Given.keys(3);
+        Given.edges(x, 0, 1, 1, 0);
         is("met before an ask", x.met(0), NONE);
         x.run(0);
         is("ask(1)", x.ask(1), 2);
@@ -573,12 +542,12 @@ public final class PromisesTest {
         x.cut(0);
         x.run(0);
         x.run(9);
-        metIs("met stays", x, 1, 0);
+        DUE.metIs("met stays", x, 1, 0);
         for (int wrong : WRONG) {
             is("met(" + wrong + ")", x.met(wrong), NONE);
         }
         is("ask(2)", x.ask(2), 0);
-        metIs("none met", x);
+        DUE.metIs("none met", x);
     }
 
     /** The largest ring, and the largest number of rings. */
